@@ -379,7 +379,7 @@ public final class PaperRound {
         trialRule.beginCard(n);
         rows.begin(r, n, 0);
         int least = Search.NO_VALUE;
-        for (int tried = 0; tried < CARDS_OF_SIX; tried++) {
+        for (int tried = 0; tried < CARDS_OF_SIX && least > 0; tried++) {
             round.go(house, trialRule, trialPlan);
             int loss = trialPlan.lossOfAll(house);
             if (loss < least) {
@@ -886,12 +886,19 @@ public final class PaperRound {
             cushions = 0;
             house = into;
             house.clear();
-            for (int items = 0; items < size && place < size; items++) {
-                if (!takeItem()) {
-                    return place;
+            boolean goesOn = true;
+            for (int items = 0; items < size && place < size && goesOn; items++) {
+                switch (look()) {
+                    case BLANK: goesOn = takeSign(' '); break;
+                    case 'm': goesOn = takeLast(); break;
+                    case 'p': goesOn = takePart(); break;
+                    case 'r': goesOn = takeReader(); break;
+                    case 'n': goesOn = takeNot(); break;
+                    case 'c': goesOn = takeCushion(); break;
+                    default: goesOn = false; break;
                 }
             }
-            return NONE;
+            return goesOn ? NONE : place;
         }
 
         private int look() {
@@ -906,13 +913,15 @@ public final class PaperRound {
             return true;
         }
 
-        private boolean isFigure() {
-            return look() >= '0' && look() <= '9';
+        /** The figure that comes next; NONE, if none does. */
+        private int figure() {
+            int sign = look();
+            return sign >= '0' && sign <= '9' ? sign - '0' : NONE;
         }
 
         private boolean takeFigure(int low, int high) {
-            number = look() - '0';
-            if (!isFigure() || number < low || number > high) {
+            number = figure();
+            if (number == NONE || number < low || number > high) {
                 return false;
             }
             place++;
@@ -920,28 +929,17 @@ public final class PaperRound {
         }
 
         private boolean takeMinute(int low, int high) {
-            if (!isFigure()) {
+            number = figure();
+            if (number == NONE) {
                 return false;
             }
-            number = look() - '0';
             place++;
-            if (isFigure()) {
-                number = number * 10 + look() - '0';
+            int second = figure();
+            if (second != NONE) {
+                number = number * 10 + second;
                 place++;
             }
             return number >= low && number <= high;
-        }
-
-        private boolean takeItem() {
-            switch (look()) {
-                case BLANK: return takeSign(' ');
-                case 'm': return takeLast();
-                case 'p': return takePart();
-                case 'r': return takeReader();
-                case 'n': return takeNot();
-                case 'c': return takeCushion();
-                default: return false;
-            }
         }
 
         private boolean takeLast() {
@@ -1009,7 +1007,7 @@ public final class PaperRound {
         }
 
         private boolean takeWant() {
-            int p = look() - '0';
+            int p = figure();
             if (house.wants >= WANTS || !house.hasPart(p) || house.wantOf(house.readers - 1, p) != NONE) {
                 return false;
             }
@@ -1034,7 +1032,7 @@ public final class PaperRound {
                 return false;
             }
             int r = number;
-            if (!takeSign('/') || look() == '0' + r || !takeFigure(0, house.readers - 1)) {
+            if (!takeSign('/') || figure() == r || !takeFigure(0, house.readers - 1)) {
                 return false;
             }
             int q = number;
@@ -1236,6 +1234,7 @@ public final class PaperRound {
         private int begun;
         /** When a reader came or ended reading: from then on he is free, and waits. */
         private final int[] freeFrom = new int[READERS];
+        /** When a copy is free, as far as is known, and who had it last. */
         private final int[] copyEnd = new int[PARTS * COPIES];
         private final int[] copyReader = new int[PARTS * COPIES];
 
@@ -1252,18 +1251,13 @@ public final class PaperRound {
                 copyEnd[c] = 0;
                 copyReader[c] = NONE;
             }
-            for (int t = 0; t < house.last; t++) {
-                goOn(t);
-            }
-        }
-
-        private void goOn(int t) {
-            for (int n = 0; n < WANTS; n++) {
+            int all = (1 << house.wants) - 1;
+            for (int t = 0; t < house.last && begun != all; t++) {
                 int w = pick(t);
-                if (w == NONE) {
-                    return;
+                for (int n = 0; n < WANTS && w != NONE; n++) {
+                    begin(w, t);
+                    w = pick(t);
                 }
-                begin(w, t);
             }
         }
 
@@ -1353,20 +1347,11 @@ public final class PaperRound {
 
         private int freeCopy(int p, int t) {
             for (int c = p * COPIES; c < p * COPIES + house.copies[p]; c++) {
-                if (copyEnd[c] <= t && !isKept(c, t)) {
+                if (copyEnd[c] <= t) {
                     return c;
                 }
             }
             return NONE;
-        }
-
-        /** A hold's reader lets go of what he has read when he has read all, or goes. */
-        private boolean isKept(int c, int t) {
-            int r = copyReader[c];
-            if (rule.kind != HOLD || !house.hasReader(r)) {
-                return false;
-            }
-            return t < house.till[r] && (!isThrough(r) || t < freeFrom[r]);
         }
 
         private void begin(int w, int t) {
@@ -1376,8 +1361,20 @@ public final class PaperRound {
             begun |= 1 << w;
             freeFrom[r] = t + house.minutes[w];
             if (c != NONE) {
-                copyEnd[c] = freeFrom[r];
                 copyReader[c] = r;
+                copyEnd[c] = rule.kind == HOLD ? house.till[r] : freeFrom[r];
+            }
+            if (rule.kind == HOLD && isThrough(r)) {
+                letGo(r);
+            }
+        }
+
+        /** Who begins the last of his wants keeps till the end of that one what else he would keep till he goes. */
+        private void letGo(int r) {
+            for (int c = 0; c < PARTS * COPIES; c++) {
+                if (copyReader[c] == r) {
+                    copyEnd[c] = freeFrom[r];
+                }
             }
         }
     }

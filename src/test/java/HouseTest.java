@@ -1,3 +1,6 @@
+import java.util.regex.Matcher;
+import java.util.regex.Pattern;
+
 /** Promises 10 to 17: faults, houses, and what parts, readers and wants are. */
 public final class HouseTest {
     private static final String TWO = "p1r0-9(0*1=1)r0-9(0*1=1)";
@@ -9,6 +12,7 @@ public final class HouseTest {
         readersAndWants();
         nots();
         cushions();
+        brokenTexts();
         faultRefused();
         house();
         part();
@@ -108,6 +112,16 @@ public final class HouseTest {
         fault("p1r5-6(0*2=9,0*2=9)", 13);
         fault("p1r5-6(0*2=91", 12);
         fault("p1r5-6(0*2=9 )", 12);
+        fault("p1r5-6(0)", 8);
+        fault("p1r5-6(0,0*2=9)", 8);
+        fault("p1r5-6(0*)", 9);
+        fault("p1r5-6(0*2)", 10);
+        fault("p1r5-6(0*21)", 11);
+        fault("p1r5-6(0*2=)", 11);
+        fault("p1r5-6(0*02=9)", Check.NONE);
+        fault("p1r5-6(0*002=9)", 11);
+        fault(times("p1", 6) + "r0-9(0*1=1,1*1=1,2*1=1,3*1=1,4*1=1,5*1=1)", Check.NONE);
+        fault(times("p1", 6) + "r0-9(0*1=1,1*1=1,2*1=1,3*1=1,4*1=1,5*1=1,)", 53);
         fault("p1r5-6(0*2=9)p1", Check.NONE);
         fault("p1p1r5-6(0*2=9,1*3=1)", Check.NONE);
         fault("r5-6(0*2=9)p1", 5);
@@ -124,6 +138,7 @@ public final class HouseTest {
         fault(TWO + "n0/", 27);
         fault(TWO + "n0/0", 27);
         fault(TWO + "n0/2", 27);
+        fault(TWO + "n1/1@0", 27);
         fault(TWO + "n0/1", 28);
         fault(TWO + "n0/1@", 29);
         fault(TWO + "n0/1@1", 29);
@@ -148,6 +163,30 @@ public final class HouseTest {
         fault("p1c0@5-61", 9);
         fault("p1" + times("c0@5-5", 8), Check.NONE);
         fault("p1" + times("c0@5-5", 9), 50);
+    }
+
+    /** A text that ends too early, or with a sign in it that no item has. */
+    private static void brokenTexts() {
+        String minute = "\\d\\d?";
+        String want = "\\d\\*" + minute + "=\\d";
+        Pattern whole = Pattern.compile("( |m" + minute + "|p\\d(:" + minute + ")?(s\\d)?|r" + minute + "-" + minute
+            + "\\(!?" + want + "(," + want + ")*\\)|n\\d/\\d@\\d|c\\d@(" + minute + ")-(" + minute + "))*");
+        for (int n = 0; n < 60; n++) {
+            Maker maker = new Maker(n);
+            maker.make(24);
+            for (int i = 0; i < maker.text.length(); i++) {
+                String early = maker.text.substring(0, i);
+                Matcher m = whole.matcher(early);
+                boolean isWhole = m.matches();
+                int c = early.lastIndexOf('c');
+                if (isWhole && c >= 0 && early.matches(".*c[^ ]*")) {
+                    String[] ab = early.substring(early.indexOf('@', c) + 1).split("-");
+                    isWhole = Integer.parseInt(ab[0]) <= Integer.parseInt(ab[1]);
+                }
+                fault(early, isWhole ? Check.NONE : i);
+                fault(early + "~" + maker.text.substring(i + 1), i);
+            }
+        }
     }
 
     private static void faultRefused() {

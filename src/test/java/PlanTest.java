@@ -210,6 +210,8 @@ public final class PlanTest {
             Check.fill(x, 1, 5, 5, t);
             Check.refused(x, Check.FINDING, "on, unlike " + t, () -> x.on(1));
             Check.finds(x, Check.UNLIKE, "on, unlike " + t, () -> x.on(1));
+            Check.fill(x, 1, t, 5, 5);
+            Check.finds(x, Check.UNLIKE, "on, unlike first " + t, () -> x.on(1));
         }
     }
 }

@@ -118,6 +118,8 @@ public final class RowsTest {
         PaperRound x = new PaperRound();
         Check.fill(x, 0, 1, 2, 5);
         Check.told(x, "mean of 1 2 5", x.mean(0), 2);
+        Check.fill(x, 0, 7);
+        Check.told(x, "mean of 7", x.mean(0), 7);
         Check.fill(x, 0, -1, -2, -2);
         Check.told(x, "mean of -1 -2 -2, cut", x.mean(0), -1);
         Check.fill(x, 0, Integer.MAX_VALUE, Integer.MAX_VALUE, Integer.MAX_VALUE);

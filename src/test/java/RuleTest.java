@@ -80,6 +80,11 @@ public final class RuleTest {
             Check.refused(x, Check.BAD, "a bad mark", () -> x.mark(b[0], b[1]));
         }
         Check.finds(x, Check.NOTHING, "mark(0, 1)", () -> x.mark(0, 1));
+        PaperRound one = Check.house("p1r0-9(0*1=1)");
+        one.row(0, 1);
+        one.rule(0, HOLD, 0);
+        Check.due("a hold of one, its first", one.mark(0, CARD), 0);
+        Check.due("a hold of one, its last", one.mark(0, HOLD), 0);
         PaperRound none = new PaperRound();
         none.row(0, 0);
         none.rule(0, CARD, 0);
