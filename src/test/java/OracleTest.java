@@ -1,7 +1,10 @@
+import java.util.ArrayList;
 import java.util.Arrays;
+import java.util.List;
 
 /** Holds the program against the oracle, over many made houses. */
 public final class OracleTest {
+    private static final List<Check.Call> changes = new ArrayList<>();
     private static String name;
 
     public static void main(String[] args) {
@@ -19,23 +22,34 @@ public final class OracleTest {
         Check.end();
     }
 
+    /** Each look begins with a new object, since one is used for 512 calls at most. */
     private static void oneHouse(Maker m, int mostWants, String title) {
         m.make(mostWants);
         name = title + " '" + m.text + "' ";
+        changes.clear();
+        face(anew(m), m.oracle);
+        change(m);
+        PaperRound x = anew(m);
+        rules(x, m);
+        best(x, m.oracle);
+        sequences(anew(m), m.oracle);
+        for (int n = 0; n < 4; n++) {
+            PaperRound planned = anew(m);
+            tellPlan(planned, m, n);
+            look(planned, m);
+            mend(planned, m);
+        }
+    }
+
+    private static PaperRound anew(Maker m) {
         PaperRound x = new PaperRound();
         Check.write(x, 0, m.text);
         due("fault", x.fault(0), Check.NONE);
         due("house", x.house(0), m.oracle.wants.size());
-        face(x, m.oracle);
-        change(x, m);
-        rules(x, m);
-        best(x, m.oracle);
-        sequences(x, m.oracle);
-        for (int n = 0; n < 4; n++) {
-            tellPlan(x, m, n);
-            look(x, m);
-            mend(x, m);
+        for (Check.Call change : changes) {
+            due("change", change.on(x), 1);
         }
+        return x;
     }
 
     private static void due(String what, long got, long want) {
@@ -84,22 +98,23 @@ public final class OracleTest {
         }
     }
 
-    private static void change(PaperRound x, Maker m) {
+    private static void change(Maker m) {
         Oracle o = m.oracle;
         if (o.readers.isEmpty() || !m.oneIn(3)) {
             return;
         }
         int p = m.upTo(o.parts.size() - 1);
+        int had = o.parts.get(p)[0];
         int n = m.among(1, 2);
-        due("copies", x.copies(p, n), o.parts.get(p)[0]);
+        changes.add(x -> x.copies(p, n) == had ? 1 : 0);
         int a = m.upTo(20);
         int f = m.upTo(9);
-        due("post", x.post(p, a, f), 1);
+        changes.add(x -> x.post(p, a, f));
         o.parts.set(p, new int[] {n, a, f});
         int r = m.upTo(o.readers.size() - 1);
         int in = m.upTo(30);
         int till = m.among(in + 1, 60);
-        due("late", x.late(r, in, till), 1);
+        changes.add(x -> x.late(r, in, till));
         o.readers.set(r, new int[] {in, till, o.readers.get(r)[2]});
     }
 

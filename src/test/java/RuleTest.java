@@ -64,16 +64,7 @@ public final class RuleTest {
         Check.due("a hold's first", x.mark(HOLD, CARD), 2);
         Check.due("a hold's last", x.mark(HOLD, HOLD), 1);
         for (int is = CARD; is <= SHORT; is++) {
-            for (int asks = CARD; asks <= SHORT; asks++) {
-                int k = is;
-                int kind = asks;
-                if (is != asks && (is != HOLD || asks != CARD)) {
-                    Check.refused(x, Check.FINDING, "a " + is + " asked as a " + asks, () -> x.mark(k, kind));
-                    Check.finds(x, Check.UNLIKE, "a " + is + " asked as a " + asks, () -> x.mark(k, kind));
-                } else if (is >= NEXT) {
-                    Check.due("mark of a " + is, x.mark(is, asks), is);
-                }
-            }
+            markAs(is);
         }
         int[][] bad = {{-1, 1}, {6, 1}, {1, 0}, {1, 6}, {1, -1}, {0, 0}};
         for (int[] b : bad) {
@@ -93,6 +84,21 @@ public final class RuleTest {
         Check.due("a hold of none, its first", none.mark(1, CARD), NO);
         Check.due("a hold of none, its last", none.mark(1, HOLD), NO);
         Check.due("asked() of none of these", none.asked(), 0);
+    }
+
+    private static void markAs(int is) {
+        PaperRound x = Check.house(R);
+        Check.fill(x, 0, 2, 0, 1);
+        x.rule(is, is, 0);
+        for (int asks = CARD; asks <= SHORT; asks++) {
+            int kind = asks;
+            if (is != asks && (is != HOLD || asks != CARD)) {
+                Check.refused(x, Check.FINDING, "a " + is + " asked as a " + asks, () -> x.mark(is, kind));
+                Check.finds(x, Check.UNLIKE, "a " + is + " asked as a " + asks, () -> x.mark(is, kind));
+            } else if (is >= NEXT) {
+                Check.due("mark of a " + is, x.mark(is, asks), is);
+            }
+        }
     }
 
     private static void ran(PaperRound x, String what, int kind, int missed, int[] card, int... begins) {
