@@ -16,6 +16,7 @@ public final class EdgeBestTest {
         noSuchMinute();
         rowsInOrder();
         bestOfAll();
+        searchesInTurn();
         spent();
         spentAhead();
         fromMinuteOn();
@@ -136,6 +137,18 @@ public final class EdgeBestTest {
         least("p1:9p1r0-13(!0*5=1,1*5=9)", 10, NONE, NONE);
         least("p1p1p1r0-9(!0*5=1,1*5=9,2*1=9)", 18, 0, NONE, NONE);
         least("p1p1p1r0-9(0*5=1,1*5=9,2*1=9)", 1, NONE, 0, 5);
+        mended(of("p1:9p1r0-18(!0*5=9,1*5=5)"), 0, 5, 9, NONE);
+        mended(of("p1:9p1r0-18(0*5=9,1*5=5)"), 0, 0, 9, 0);
+        Check.due("soon, told order", of("p1:9p1r0-18(!0*5=9,1*5=5)").soon(), NONE);
+        Check.due("soon, no told order", of("p1:9p1r0-18(0*5=9,1*5=5)").soon(), 14);
+        Check.due("soon, told order, in time", of("p1:9p1r0-19(!0*5=9,1*5=5)").soon(), 19);
+        Check.due("even, told order", of("p1:9p1r0-18(!0*5=9,1*5=5)").even(), 5);
+        Check.due("even, no told order", of("p1:9p1r0-18(0*5=9,1*5=5)").even(), 0);
+        Check.due("quarrel, told order", of("p1:9p1r0-18(!0*5=9,1*5=5)").quarrel(), 1);
+        Check.due("quarrel, no told order", of("p1:9p1r0-18(0*5=9,1*5=5)").quarrel(), NONE);
+        PaperRound twice = of("p1:9p1r0-18(!0*5=9,1*5=5)");
+        Check.due("twice, told order", twice.twice(), 0);
+        Check.due("twice, told order, asked()", twice.asked(), 5);
     }
 
     private static void notAfter() {
@@ -190,6 +203,54 @@ public final class EdgeBestTest {
         least("p1s4r0-60(0*5=5)r0-60(0*9=9)r0-60(0*9=9)", 4, 0, 5, 14);
         least("p1s4r0-60(0*10=5)r0-60(0*10=9)", 4, 0, 10);
         least("p1s5r0-60(0*10=4)r0-60(0*10=9)", 4, NONE, 0);
+    }
+
+    /** What one search leaves does not come into the next; nor do READINGS that stayed by mend(). */
+    private static void searchesInTurn() {
+        Check.terms(4, "BEST: the least MISSED by any SEQUENCE, the first one.");
+        String text = "p1p2s1r0-60(0*20=9,1*5=5)r0-40(0*9=7,1*20=6)r3-30(1*8=8,0*5=5)";
+        for (int t = 0; t < 60; t += 7) {
+            Check.Made goes = () -> planned(text, 0, 33, 20, NONE, 3, NONE);
+            PaperRound x = goes.anew();
+            x.image(0);
+            x.mend(t);
+            x.mend(59);
+            x.on(0);
+            PaperRound anew = goes.anew();
+            anew.image(0);
+            long[] got = Look.at(x);
+            long[] due = Look.at(anew);
+            for (int i = 0; i < due.length; i++) {
+                Check.due("behind mend(" + t + "), " + Look.nameOf(i), got[i], due[i]);
+            }
+        }
+        for (int p = 0; p < 6; p++) {
+            PaperRound x = of("p1".repeat(p) + "p2" + "p1".repeat(5 - p) + ("r0-20(" + p + "*5=5)").repeat(7) + "r0-5(" + p + "*5=5)");
+            Check.plan(x, NONE, NONE, NONE, NONE, NONE, NONE, 0, 0);
+            Check.due("mend(1), two of eight stay", x.mend(1), 0);
+            Check.due("least() behind it", x.least(), 0);
+            Check.begins(x, "least() behind it", 0, 5, 5, 10, 10, 15, 15, 0);
+        }
+        for (int first = 0; first < 7; first++) {
+            for (int next = 0; next < 7; next++) {
+                PaperRound x = of(text);
+                search(x, first);
+                PaperRound anew = of(text);
+                Check.due("search " + next + " behind search " + first, search(x, next), search(anew, next));
+            }
+        }
+    }
+
+    private static int search(PaperRound x, int which) {
+        switch (which) {
+            case 0: return x.least();
+            case 1: return x.soon();
+            case 2: return x.even() * 1000 + x.asked();
+            case 3: return x.bound();
+            case 4: return x.quarrel();
+            case 5: return x.twice() * 1000 + x.asked();
+            default: return x.mend(0);
+        }
     }
 
     private static void spent() {

@@ -29,6 +29,7 @@ public final class EdgeHouseTest {
         fault();
         house();
         houseChanges();
+        housesInTurn();
         houseRefused();
         part();
         reader();
@@ -350,6 +351,11 @@ public final class EdgeHouseTest {
         fault("p1r0-9(0*200=1)", 11);
         fault("p1r0-9(0*=1)", 9);
         fault("p1r0-9(0=1)", 8);
+        fault("p1r0-9(0)", 8);
+        fault("p1p1r0-9(0,1*1=1)", 10);
+        fault("p1r0-9(0*0)", 10);
+        fault("p1r0-9(0*21)", 11);
+        fault("p1r0-9(0*)", 9);
         fault("p1r0-9(0*1)", 10);
         fault("p1r0-9(0*1*1)", 10);
         fault("p1r0-9(0*1=)", 11);
@@ -504,6 +510,18 @@ public final class EdgeHouseTest {
         for (String item : items) {
             fault(TWO + item, TWO.length() + item.length());
         }
+        // What a longer text left behind the end does not count.
+        String whole = TWO + "p1:15s3m12r10-20(!0*12=3,1*5=9)n0/1@0c0@11-12";
+        for (int size = 0; size < whole.length(); size++) {
+            PaperRound anew = new PaperRound();
+            Check.write(anew, 1, whole.substring(0, size));
+            PaperRound x = new PaperRound();
+            Check.write(x, 1, whole);
+            Check.write(x, 1, whole.substring(0, size));
+            Check.due("fault behind a longer text, " + size, x.fault(1), anew.fault(1));
+            Check.due("house behind a longer text, " + size, x.house(1), anew.house(1));
+            Check.due("digest behind a longer text, " + size, x.digest(), anew.digest());
+        }
         fault(" ".repeat(120 - 5) + "r0-9(", 120);
         fault(" ".repeat(119) + "m", 120);
     }
@@ -625,6 +643,44 @@ public final class EdgeHouseTest {
         Check.due("no cushion of the house before", z.can(0, 5), 1);
         z.read(1, 3);
         Check.due("no AFTER of the house before", z.can(0, 5), 1);
+    }
+
+    private static PaperRound ofFour(int... turns) {
+        String[] texts = {"p2p1s3r0-60(0*5=9,1*5=5)r0-60(0*5=9)n1/0@0c0@0-9c1@3-30", "m30p1:5p2r3-40(!1*3=2,0*5=9)r0-9(0*1=1)n0/1@0",
+            "p1p1r0-60(0*5=9,1*5=5)r0-60(0*5=9)r0-60(1*7=4)", "p1r0-60(0*1=1)r9-20(0*4=3)"};
+        PaperRound x = new PaperRound();
+        for (int t = 0; t < 4; t++) {
+            Check.write(x, t, texts[t]);
+        }
+        for (int t : turns) {
+            Check.isTrue("house(" + t + ")", x.house(t) > 0);
+        }
+        return x;
+    }
+
+    /** Nothing of a house before comes into one anew, however many there have been. */
+    private static void housesInTurn() {
+        Check.says(11, "A HOUSE by a TEXT (anew; the PLAN is without READINGS, RULES are missing): how many WANTS.");
+        int[][] turns = {{0, 1, 2}, {1, 0, 3}, {0, 0, 0}, {0, 2, 3}, {1, 2, 3}, {0, 1, 0, 2}, {0, 1, 1, 2, 3}, {2, 3, 0}, {3, 2, 1}};
+        for (int[] turn : turns) {
+            long[] got = Look.at(ofFour(turn));
+            long[] due = Look.at(ofFour(turn[turn.length - 1]));
+            for (int i = 0; i < due.length; i++) {
+                Check.due("houses in turn " + java.util.Arrays.toString(turn) + ", " + Look.nameOf(i), got[i], due[i]);
+            }
+        }
+        for (int late = 0; late < 4; late++) {
+            PaperRound x = ofFour(3);
+            for (int t = 0; t < 4; t++) {
+                x.fault(t);
+            }
+            x.house(late);
+            long[] got = Look.at(x);
+            long[] due = Look.at(ofFour(late));
+            for (int i = 0; i < due.length; i++) {
+                Check.due("house(" + late + ") behind fault() of all, " + Look.nameOf(i), got[i], due[i]);
+            }
+        }
     }
 
     private static void houseRefused() {

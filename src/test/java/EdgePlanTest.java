@@ -75,6 +75,10 @@ public final class EdgePlanTest {
         judged(x, 4, 0, 4, 4);
         judged(x, NONE, 0, 4, 5);
         judged(x, NONE, 0, 4, 8);
+        PaperRound others = of("p1p1p1r0-60(0*5=9)r0-60(0*5=9)r0-60(1*9=9)r0-60(2*9=9)");
+        judged(others, 4, 0, 4, 0, 0);
+        judged(others, 4, 0, 4, 3, 4);
+        judged(others, NONE, 0, 5, 0, 5);
     }
 
     private static void oneAtATime() {
@@ -88,6 +92,10 @@ public final class EdgePlanTest {
         judged(x, 3, 3, 1, 0, 9);
         judged(x, 1, 9, 1, 1, 4);
         judged(x, NONE, 0, 5, NONE, 5);
+        PaperRound others = of("p2p2p1r0-60(0*5=9,1*5=9)r0-60(0*9=9)r0-60(1*9=9)r0-60(2*9=9)");
+        judged(others, 4, 0, 4, 0, 0, 0);
+        judged(others, 4, 0, 4, 4, 3, 2);
+        judged(others, NONE, 0, 5, 0, 5, 3);
     }
 
     private static void whoIsIn() {

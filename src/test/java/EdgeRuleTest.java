@@ -19,6 +19,7 @@ public final class EdgeRuleTest {
         card();
         hold();
         holdTillHeGoes();
+        holdOfTheLastPart();
         next();
         dear();
         shortest();
@@ -29,6 +30,7 @@ public final class EdgeRuleTest {
         markOfNone();
         markRefused();
         run();
+        runsInTurn();
         runRefused();
         best();
         bestComesToARow();
@@ -223,6 +225,19 @@ public final class EdgeRuleTest {
         ran(one, HOLD, new int[] {0, 1}, 0, 5);
         PaperRound two = of("p2p1:40r0-30(0*5=1,1*5=1)r0-20(0*5=9,1*5=9)r0-60(0*5=9)");
         ran(two, HOLD, new int[] {0, 1, 2}, 0, NONE, 0, NONE, 20);
+    }
+
+    private static void holdOfTheLastPart() {
+        Check.terms(3, "keeps that COPY till all his WANTS are read,");
+        for (int p = 0; p < 6; p++) {
+            String parts = "p1".repeat(p) + "p2" + "p1".repeat(5 - p);
+            String wants = "r0-60(" + p + "*5=9)";
+            PaperRound x = of(parts + wants.repeat(5));
+            ran(x, HOLD, upTo(5), 0, 0, 5, 5, 10);
+            int q = (p + 1) % 6;
+            PaperRound two = of(parts + "r0-60(" + p + "*5=9," + q + "*5=9)" + wants.repeat(3));
+            ran(two, HOLD, upTo(4), 0, 5, 0, 5, 10);
+        }
     }
 
     private static void next() {
@@ -489,6 +504,37 @@ public final class EdgeRuleTest {
         Check.begins(x, "run(3), the house changed again", 3, 3);
     }
 
+    private static PaperRound withRules(String text) {
+        PaperRound x = of(text);
+        int[][] cards = {{0, 1, 2}, {2, 1, 0}, {1, 0, 2}};
+        for (int k = 0; k < 3; k++) {
+            Check.fill(x, 0, cards[k]);
+            x.rule(2 * k, CARD, 0);
+            x.rule(2 * k + 1, HOLD, 0);
+        }
+        x.rule(4, NEXT, 0);
+        return x;
+    }
+
+    /** What one run leaves does not come into the next. */
+    private static void runsInTurn() {
+        Check.says(27, "The PLAN becomes what comes by a RULE from a PLAN without READINGS: MISSED.");
+        String[] texts = {"p2r0-60(0*5=1)r0-60(0*5=2)r0-60(0*5=3)", "p1p2r0-30(0*5=1,1*9=4)r2-60(1*5=2,0*3=2)r0-60(1*5=3)",
+            "p2p1r0-20(!1*5=1,0*5=1)r0-60(0*5=2,1*2=1)r9-60(0*5=3,1*9=9)"};
+        for (String text : texts) {
+            for (int first = 0; first < 6; first++) {
+                for (int k = 0; k < 6; k++) {
+                    PaperRound x = withRules(text);
+                    x.run(first);
+                    x.run(5 - first);
+                    PaperRound anew = withRules(text);
+                    Check.due("run(" + k + ") behind others of " + text, x.run(k), anew.run(k));
+                    Check.due("digest() behind it", x.digest(), anew.digest());
+                }
+            }
+        }
+    }
+
     private static void runRefused() {
         Check.says(27, "BAD; NOTHING.");
         Check.range(Homes::full, "run(k)", 0, 5, (x, k) -> x.run(k));
@@ -518,6 +564,15 @@ public final class EdgeRuleTest {
         bestIs("p1r0-6(0*1=1)r0-5(0*1=1)r0-4(0*1=1)r0-3(0*1=1)r0-2(0*1=1)r0-1(0*1=1)", 0, 5, 4, 3, 2, 1, 0);
         bestIs("p1r0-5(0*5=4)r0-5(0*5=3)r0-5(0*5=9)r0-5(0*5=9)", 16, 2, 0, 1, 3);
         bestIs("p1r0-10(0*5=4)r0-10(0*5=3)r0-10(0*5=9)r0-10(0*5=9)", 7, 2, 3, 0, 1);
+        PaperRound again = of("p1r0-5(0*5=4)r0-5(0*5=3)r0-5(0*5=9)r0-5(0*5=9)");
+        for (int n = 0; n < 3; n++) {
+            Check.due("best again", again.best(n), 16);
+            Check.holds(again, "best again", n, 2, 0, 1, 3);
+        }
+        Check.write(again, 1, "p1r0-5(0*5=4)r0-5(0*5=5)");
+        again.house(1);
+        Check.due("best of fewer READERS", again.best(0), 4);
+        Check.holds(again, "best of fewer READERS", 0, 1, 0);
         Check.says(28, "(The PLAN stays.)");
         PaperRound x = of("p1r0-5(0*5=4)r0-5(0*5=5)");
         Check.plan(x, 59, NONE);
