@@ -416,6 +416,9 @@ public final class EdgeHouseTest {
         fault(EIGHT + "n7/8@0", EIGHT.length() + 3);
         fault(EIGHT + "n8/7@0", EIGHT.length() + 1);
         goesOn(EIGHT + "n7/6@0");
+        // Eight of each are not too many together; with these the text is full.
+        goesOn("p1r0-9(0*1=1)r0-9(0*1=1)" + "n0/1@0".repeat(8) + "c0@0-0".repeat(8));
+        fault("p1r0-9(0*1=1)r0-9(0*1=1)" + "c0@0-0".repeat(7) + "n0/1@0".repeat(8) + "n0/1@0", 24 + 90);
         PaperRound x = of(EIGHT + "n7/0@0n7/6@0n0/7@0");
         Check.told(x, "not AFTER READERS 0, 6", x.want(7, 5), 0x41);
         Check.told(x, "not AFTER READER 7", x.want(0, 5), 0x80);

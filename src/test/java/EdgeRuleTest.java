@@ -564,6 +564,8 @@ public final class EdgeRuleTest {
         bestIs("p1r0-6(0*1=1)r0-5(0*1=1)r0-4(0*1=1)r0-3(0*1=1)r0-2(0*1=1)r0-1(0*1=1)", 0, 5, 4, 3, 2, 1, 0);
         bestIs("p1r0-5(0*5=4)r0-5(0*5=3)r0-5(0*5=9)r0-5(0*5=9)", 16, 2, 0, 1, 3);
         bestIs("p1r0-10(0*5=4)r0-10(0*5=3)r0-10(0*5=9)r0-10(0*5=9)", 7, 2, 3, 0, 1);
+        // By CARDS, not by HOLDS: reader 0 does not keep the part that he has read.
+        bestIs("p1p1r0-60(0*5=1,1*5=1)r0-8(0*3=9)", 0, 0, 1);
         PaperRound again = of("p1r0-5(0*5=4)r0-5(0*5=3)r0-5(0*5=9)r0-5(0*5=9)");
         for (int n = 0; n < 3; n++) {
             Check.due("best again", again.best(n), 16);
